@@ -576,12 +576,14 @@ public final class DriftSea {
         }
 
         boolean isAtDigit() {
-            return isDigit(look());
+            look();
+            return isDigitHere();
         }
 
         /** A number of at most so many digits; NONE leaves the place at the byte that is wrong. */
         int readNumber(int most) {
-            if (!isDigit(look())) {
+            look();
+            if (!isDigitHere()) {
                 return NONE;
             }
             int value = 0;
@@ -593,11 +595,7 @@ public final class DriftSea {
         }
 
         private boolean isDigitHere() {
-            return at < length && isDigit(signs[at]);
-        }
-
-        private static boolean isDigit(int sign) {
-            return sign >= '0' && sign <= '9';
+            return at < length && signs[at] >= '0' && signs[at] <= '9';
         }
     }
 
@@ -927,7 +925,11 @@ public final class DriftSea {
 
         private boolean readAtom(Tape tape, int depth) {
             if (tape.isAtDigit()) {
-                return readNumber(tape);
+                int value = tape.readNumber(DIGITS);
+                if (value != NONE) {
+                    put(NUMBERS + value);
+                }
+                return value != NONE;
             }
             int sign = tape.look();
             if (sign == '[') {
@@ -948,15 +950,6 @@ public final class DriftSea {
             }
             tape.pass();
             return readSum(tape, depth + 1) && tape.takes(']');
-        }
-
-        private boolean readNumber(Tape tape) {
-            int value = tape.readNumber(DIGITS);
-            if (value == NONE) {
-                return false;
-            }
-            put(NUMBERS + value);
-            return true;
         }
 
         private static boolean isComparison(int sign) {

@@ -78,17 +78,18 @@ public final class ModelTest {
         int spread = new int[] {5, 20, 99}[random.nextInt(3)];
         boolean needy = random.nextBoolean();
         if (random.nextInt(4) > 0) {
-            text.append("w").append(item('f', 9, 2)).append(item('j', random.nextBoolean() ? 9 : 2, 2))
-                    .append(item('r', 1, 2)).append(item('c', 20, 2)).append(';');
+            text.append("w").append(item('f', 9, 4)).append(item('j', random.nextBoolean() ? 9 : 3, 6))
+                    .append(item('r', 1, 6)).append(item('c', 20, 4)).append(';');
         }
         for (int i = 0; i < isles; i++) {
             text.append(i > 0 ? ";" : "").append("i").append(item('x', spread, 9)).append(item('y', spread, 9))
-                    .append(item('m', 9, 2)).append(item('g', 2, needy ? 5 : 2)).append(item('n', 3, needy ? 6 : 1))
-                    .append(item('q', 9, 4)).append(item('s', 9, 3)).append(item('p', random.nextBoolean() ? 9 : 99, 3));
+                    .append(item('m', random.nextBoolean() ? 3 : 9, 4)).append(item('g', needy ? 1 : 3, 6))
+                    .append(item('n', needy ? 1 : 3, needy ? 8 : 1)).append(item('q', 9, 5))
+                    .append(item('s', 9, 3)).append(item('p', random.nextBoolean() ? 9 : 99, 4));
         }
-        int ties = random.nextInt(5);
+        int ties = random.nextInt(random.nextInt(8) == 0 ? 9 : 6);
         for (int i = 0; i < ties; i++) {
-            text.append(";t").append(pair(isles)).append(item('k', 1, 3)).append(item('w', 9, 5));
+            text.append(";t").append(pair(isles)).append(item('k', 1, 5)).append(item('w', 9, 8));
         }
         int bridges = random.nextInt(3);
         for (int i = 0; i < bridges; i++) {

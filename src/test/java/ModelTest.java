@@ -17,7 +17,7 @@ public final class ModelTest {
 
     public static void main(String[] args) {
         Check check = new Check();
-        int runs = args.length > 0 ? Integer.parseInt(args[0]) : 250;
+        int runs = args.length > 0 ? Integer.parseInt(args[0]) : 600;
         int first = args.length > 1 ? Integer.parseInt(args[1]) : 0;
         for (int i = 0; i < runs && check.wrongSoFar() == 0; i++) {
             ModelTest test = new ModelTest(first + i, check);

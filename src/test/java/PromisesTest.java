@@ -114,7 +114,9 @@ public final class PromisesTest {
         due("3 end 230", s.end(230), true);
         due("2 more than 240 by many", s.feed(-1, -1, -1, 0, 0), NONE);
         due("2 refused whole", s.count(5), 230);
-        due("2 to 240", s.feed(-1, -1, 0x4141, 0, 0), 240);
+        due("2 more than 240 by the last", s.feed(-1, 0, 0, -1, 0x414141), NONE);
+        due("2 more than 240 by the fourth", s.feed(-1, 0, 0, 0x414141, -1), NONE);
+        due("2 to 240", s.feed(-1, 0, 0, 0x4141, -1), 240);
     }
 
     // 4 as a SEA
@@ -134,6 +136,7 @@ public final class PromisesTest {
             {"tk2;i;i", 2}, {"tw0;i;i", 2}, {"tw9k1;i;i", NONE}, {"ta6;i;i", 2}, {"tb6;i;i", 2}, {"tl5;i;i", 1},
             {"bl0;i;i", 2}, {"bl99;i;i", NONE}, {"ba1b0;i;i", NONE}, {"bw1;i;i", 1},
             {"i;i;ta1", 7}, {"i;i;ta1;w", 9}, {"i;i;ta1b0", NONE}, {"i;i;tb2", 7}, {"i;i;tb2;i", NONE},
+            {"i;i;ta2", 7}, {"i;i;ba2", 7}, {"i;i;ta2;i", NONE},
             {"ta5;i;i", 7}, {"i;i;bb2", 7}, {"i;i;ba1b1", 9}, {"t;b", 3}, {"i" + (char) 200, 1},
         };
         for (Object[] row : rows) {
@@ -156,6 +159,7 @@ public final class PromisesTest {
             {"y:d>1|w<2&k=0?3", NONE}, {"y:d>1&?3", 6}, {"y:d>1||", 6}, {"y:d>1?w>1", 7}, {"y:(d>1)?(", 8},
             {"y:!!!!!!d=1?w", NONE}, {"y:!!!!!!!d=1?w", 8}, {"y:[[[[[[d]]]]]]", NONE}, {"y:[[[[[[[d", 8},
             {"y:((((((d=1))))))?w", NONE}, {"y:(((((((", 8}, {"y:!(!([[d]]=1))?w", NONE}, {"y:!(!(![[d]]", 8},
+            {"y:d=1?[[[[[[d]]]]]]", NONE}, {"y:d=1?[[[[[[[d", 12},
             {"y:(d=1)&(d=1)&(d=1)&(d=1)&(d=1)&(d=1)&(d=1)?w", NONE}, {"y:!!!!!!d=[1]?w", 10},
             {" y : ( d > 1 ) & ! w = 2 ? 3 * [ 4 - k ] ", NONE}, {"y:d" + (char) 255, 3},
         };
@@ -275,6 +279,10 @@ public final class PromisesTest {
             due("10 pull(0)", s.pull(0), true);
             due("10 worth of " + row[0], s.tie(0, 4), (Integer) row[1]);
         }
+        DriftSea longest = Check.sea(SWING);
+        due("5 240 bytes", Check.rule(longest, "y:" + "0+".repeat(118) + "42"), 0);
+        longest.pull(0);
+        due("10 worth of 240 bytes", longest.tie(0, 4), 42);
         DriftSea s = Check.sea("ix0y0;ix50y50;t");
         Check.rule(s, "y:h*2");
         Check.rule(s, "y:7");
@@ -352,6 +360,8 @@ public final class PromisesTest {
         due("14 not below -999", Check.isle(s, 0, 0), -999);
         due("14 not above 999", Check.isle(s, 1, 0), 999);
         due("14 nobody goes there", s.log(0, 2), 0);
+        due("19 nor would", s.drift(0, 0), 0);
+        due("19 nor the other", s.drift(1, 0), 0);
         // trade pulls, if it does
         s = Check.sea("wr1;in1q4x0y0;ig1x9y0m2");
         s.go(1);
@@ -382,6 +392,13 @@ public final class PromisesTest {
             due("17 how far", s.log(0, 2), 7);
             due("7 no PULL within", s.tie(0, 4), 0);
         }
+        // the SCAR of others than isle 0, by y
+        DriftSea along = Check.sea("wj3c4;ix99y99;ix99y0;ix0y50m3;ix0y60m2;ta3b2w9");
+        along.go(1);
+        due("6 place by y", Check.isle(along, 3, 1), 53);
+        due("6 SCARS by y", Check.isle(along, 3, 4), 1);
+        due("6 SCARS of the HEAD", Check.isle(along, 2, 4), 1);
+        due("6 no SCARS", Check.isle(along, 1, 4), 0);
         DriftSea s = Check.sea("wj2;ix0y0m2;ix10y0m3;tw9");
         s.go(1);
         due("14 too far to JOIN", s.count(1), 2);
@@ -675,6 +692,11 @@ public final class PromisesTest {
         s.go(2);
         due("28 now", s.one(0, 1, 1), 0);
         due("28 now, n 0", s.one(0, 1, 0), NONE);
+        due("27 not within 60", Check.sea("ix0y0;ix9y0;ix0y50;ix50;ix99;iy99;tk1").round(60, 0), NONE);
+        s = Check.sea("ix0y0;ix10y0m2;tk1;bl69;bl70");
+        due("30 behind 60", s.snap(0), 60);
+        due("30 not within 60", s.snap(1), NONE);
+        due("28 not within 60", s.one(0, 1, 60), NONE);
         s = Check.sea("ix0y0;ix10y0;tk1w3;bl20;bl99");
         due("30 behind 2", s.snap(0), 2);
         due("30 later", s.snap(1), 15);
@@ -710,6 +732,9 @@ public final class PromisesTest {
         due("31 overtaken", s.sail(1, 0, 2, 1), 1);
         due("31 then", s.sail(1, 0, 2, 0), 2);
         due("32 in one season", s.haste(0, 1, 1), 8);
+        s = Check.sea("ix0y0;ix99y0;ix99y1");
+        due("32 the greatest SPEED", s.haste(0, 1, 1), 99);
+        due("32 no greater one", s.haste(0, 2, 1), NONE);
         s = Check.sea("i;i");
         due("31 it lies there", s.sail(0, 1, 1, 0), 1);
         due("31 without sailing", s.sail(0, 1, 1, 1), 1);
@@ -773,6 +798,7 @@ public final class PromisesTest {
         due("34 alike", s.bicker(11, 0, 99, 1, 1, 0), NONE);
         due("34 no such", s.bicker(2, 0, 99, 1, 1, 0), NONE);
         due("34 below 0", s.bicker(-10, 0, 99, 1, 1, 0), NONE);
+        due("34 far 0", Check.sea("i;i").bicker(1, 0, 0, 1, 1, 0), 0);
         // a bargain of 1 draws by 2 a season: a quarrel of 1 holds it up
         s = Check.sea("ix0y0;ix10y0;t");
         due("34 held up in each", s.bicker(1, 10, 10, 3, 1, 0), 222);

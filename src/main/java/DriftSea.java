@@ -1498,16 +1498,18 @@ public final class DriftSea {
         }
 
         private void drawTwo(State state, int first, int second, int pull) {
-            int apart = state.apart(first, second);
+            int apart = pull == 0 ? 0 : state.apart(first, second);
             if (apart == 0) {
                 return;
             }
             int x = pull * (state.xOf(second) - state.xOf(first)) / apart;
             int y = pull * (state.yOf(second) - state.yOf(first)) / apart;
-            drawnX[state.headOf(first)] += x;
-            drawnY[state.headOf(first)] += y;
-            drawnX[state.headOf(second)] -= x;
-            drawnY[state.headOf(second)] -= y;
+            int firstHead = state.headOf(first);
+            int secondHead = state.headOf(second);
+            drawnX[firstHead] += x;
+            drawnY[firstHead] += y;
+            drawnX[secondHead] -= x;
+            drawnY[secondHead] -= y;
         }
 
         private void moveAll(State state) {
@@ -1526,8 +1528,8 @@ public final class DriftSea {
         private boolean joinFirstPair(State state) {
             int join = sea.ofWater(Sea.JOIN);
             for (int lower = 0; lower < MOST_ISLES; lower++) {
-                for (int higher = lower + 1; higher < MOST_ISLES; higher++) {
-                    if (state.isHead(lower) && state.isHead(higher) && state.apart(lower, higher) <= join) {
+                for (int higher = lower + 1; higher < MOST_ISLES && state.isHead(lower); higher++) {
+                    if (state.isHead(higher) && state.apart(lower, higher) <= join) {
                         joinTwo(state, lower, higher);
                         return true;
                     }
@@ -1905,11 +1907,12 @@ public final class DriftSea {
             tellPairs();
         }
 
+        /** Parts of one HEAD are no pair: a bargain within it draws nothing, and parts never part. */
         private void tellPairs() {
             pairs = 0;
             for (int lower = 0; lower < sea.isles(); lower++) {
                 for (int higher = lower + 1; higher < sea.isles(); higher++) {
-                    if (pairs < MOST_PAIRS) {
+                    if (pairs < MOST_PAIRS && now.headOf(lower) != now.headOf(higher)) {
                         lowers[pairs] = lower;
                         highers[pairs] = higher;
                         pairs++;

@@ -23,6 +23,10 @@ final class Check {
         return wrong;
     }
 
+    int askedSoFar() {
+        return asked;
+    }
+
     /** Ends the test: exit code 1 if an answer was wrong. */
     void close(String name) {
         System.out.println(name + ": " + asked + " answers, " + wrong + " not as due");

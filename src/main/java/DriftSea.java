@@ -8,7 +8,6 @@ public final class DriftSea {
 
     private static final int NO_SORT = -2;
     private static final int MOST_ISLES = 6;
-    private static final int MOST_TIES = 8;
     private static final int MOST_BRIDGES = 4;
     private static final int MOST_RULES = 4;
     private static final int MOST_SEASONS = 60;

@@ -55,6 +55,14 @@ final class Check {
         return sea;
     }
 
+    /** A SEA with a PULL that holds. */
+    static DriftSea sea(String text, String pull) {
+        DriftSea sea = sea(text);
+        rule(sea, pull);
+        sea.pull(0);
+        return sea;
+    }
+
     static int rule(DriftSea sea, String text) {
         tape(sea, text);
         return sea.text(1);

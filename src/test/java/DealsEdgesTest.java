@@ -6,13 +6,6 @@ public final class DealsEdgesTest {
         Edges.runAll(DealsEdgesTest.class);
     }
 
-    private static DriftSea of(String text, String pull) {
-        DriftSea sea = Check.sea(text);
-        Check.rule(sea, pull);
-        sea.pull(0);
-        return sea;
-    }
-
     // ---- TREATY ----
 
     @Says("TREATY: the fewest pairs of ISLES (each once, three at most), each with one bargain of a STRENGTH more")
@@ -31,6 +24,13 @@ public final class DealsEdgesTest {
         int most = 45 - 2 - 1 - 1;
         Edges.due("by three", six.treaty(5, most, 1, 1) != NONE, true);
         Edges.due("not by three", six.treaty(5, most - 1, 1, 1), NONE);
+        // of four ISLES there are six pairs: 03 draws by 2, four of them by 1
+        DriftSea four = Check.sea("ix0y0;ix9y0;ix18y0;ix27y0");
+        Edges.due("of six pairs by three", four.treaty(3, 27 - 4, 1, 1), 10203);
+        Edges.due("not by four", four.treaty(3, 27 - 5, 1, 1), NONE);
+        DriftSea five = Check.sea("ix0y0;ix9y0;ix18y0;ix27y0;ix36y0");
+        Edges.due("of ten pairs by three", five.treaty(4, 36 - 4, 1, 1), 10204);
+        Edges.due("not by four of ten", five.treaty(4, 36 - 5, 1, 1), NONE);
         Edges.due("each once: 2 by one pair", six.treaty(5, 43, 1, 1), 5);
         Edges.due("not 4 by the same pair twice", six.treaty(5, 42, 1, 1), 105);
     }
@@ -45,6 +45,57 @@ public final class DealsEdgesTest {
         Edges.due("none needed", sea.treaty(3, 60, 1, 3), 0);
         Edges.due("of 12, 13, 23", sea.treaty(12, 17, 1, 3), 2);
         Edges.due("two isles that are not 0", Check.sea("ix0y50;ix20y0;ix40y0").treaty(12, 14, 1, 3), 12);
+    }
+
+    @Says("(of several the least row): each row of three pairs, where that row alone will do")
+    static void eachRowAlone() {
+        for (int set = 0; set < 64; set++) {
+            if (Integer.bitCount(set) != 3) {
+                continue;
+            }
+            // three are on one line; a bargain of 1 draws nobody to the others, as it is cut in x and in y
+            StringBuilder text = new StringBuilder();
+            int[] line = new int[3];
+            int found = 0;
+            for (int isle = 0; isle < 6; isle++) {
+                if ((set >> isle & 1) == 1) {
+                    text.append(";ix").append(20 + 20 * found).append("y0");
+                    line[found++] = isle;
+                } else {
+                    text.append(";ix").append(1 + 3 * isle).append("y").append(61 + 5 * isle);
+                }
+            }
+            DriftSea sea = Check.sea(text.substring(1));
+            int a = line[0];
+            int b = line[1];
+            int c = line[2];
+            int row = (10 * a + b) * 10000 + (10 * a + c) * 100 + 10 * b + c;
+            Edges.due("all three of " + row, sea.treaty(10 * a + c, 36, 1, 1), row);
+            Edges.due("the other way round", sea.treaty(10 * c + a, 36, 1, 1), row);
+            Edges.due("no more", sea.treaty(10 * a + c, 35, 1, 1), NONE);
+            Edges.due("two of them", sea.treaty(10 * a + c, 37, 1, 1), (10 * a + b) * 100 + 10 * a + c);
+            Edges.due("one of them", sea.treaty(10 * a + c, 38, 1, 1), 10 * a + c);
+            Edges.due("either of two", sea.treaty(10 * a + c, 39, 1, 1), 10 * a + b);
+            Edges.due("none of them", sea.treaty(10 * a + c, 40, 1, 1), 0);
+        }
+    }
+
+    @Says("two: 10 times the one and the other")
+    static void bothOfTwo() {
+        // all fifteen FARS are unlike
+        DriftSea sea = Check.sea("ix0y0;ix1y0;ix4y0;ix10y0;ix22y0;ix47y0");
+        for (int one = 0; one < 6; one++) {
+            for (int other = 0; other < 6; other++) {
+                if (one != other) {
+                    int two = 10 * one + other;
+                    int far = sea.far(one, other);
+                    Edges.due("none needed for " + two, sea.treaty(two, far, 1, 1), 0);
+                    Edges.due("one needed for " + two, sea.treaty(two, far - 1, 1, 1) != 0, true);
+                    Edges.due("just so far are " + two, sea.bicker(two, far, far, 1, 1, 0), 0);
+                    Edges.due("a quarrel of " + two, sea.bicker(two, far + 2, far + 2, 1, 1, 0), 2);
+                }
+            }
+        }
     }
 
     @Says("by which two ISLES are no farther than told behind n (1 .. 20) SEASONS")
@@ -77,10 +128,10 @@ public final class DealsEdgesTest {
             Edges.due("no more by " + strength, sea.treaty(1, 59 - step, 1, strength), NONE);
         }
         // by the PULL that holds: k is 0, w the STRENGTH
-        DriftSea rule = of("ix0y0m9;ix60y0", "y:k=0?w*2;y:0");
+        DriftSea rule = Check.sea("ix0y0m9;ix60y0", "y:k=0?w*2;y:0");
         Edges.due("a bargain by the PULL", rule.treaty(1, 54, 1, 3), 1);
         Edges.due("no more", rule.treaty(1, 53, 1, 3), NONE);
-        DriftSea first = of("ix0y0m9;ix60y0m3", "y:m-n");
+        DriftSea first = Check.sea("ix0y0m9;ix60y0m3", "y:m-n");
         Edges.due("the lower is the first one", first.treaty(10, 58, 1, 3), 1);
     }
 
@@ -147,7 +198,7 @@ public final class DealsEdgesTest {
         Edges.due("one of six", sea.bicker(1, 10, 20, 6, 1, 0), 2);
         Edges.due("none of five", sea.bicker(1, 10, 20, 5, 1, 0), 0);
         // a deal is worth something in the third SEASON alone, and nearer or farther is as good
-        DriftSea either = of("ix0y0;ix20y0;tk1w9", "y:w=9&h=2?1;y:w=1&h=2&k=1?0-1;y:w=1&h=2?0-1;y:0");
+        DriftSea either = Check.sea("ix0y0;ix20y0;tk1w9", "y:w=9&h=2?1;y:w=1&h=2&k=1?0-1;y:w=1&h=2?0-1;y:0");
         Edges.due("a bargain is less than a quarrel", either.bicker(1, 20, 20, 4, 1, 0), 10);
         Edges.due("one deal", either.bicker(1, 20, 20, 4, 1, 1), 1);
         DriftSea still = Check.sea("ix0y0;ix20y0");
@@ -173,7 +224,7 @@ public final class DealsEdgesTest {
         y.chart(3, 1, 1, 57);
         Edges.due("in x not", y.fits(NONE), 0);
         // from the SEASON when FITS is asked, not from the one when it was told
-        DriftSea later = of("ix0y0m9;ix60y0;t", "y:h");
+        DriftSea later = Check.sea("ix0y0m9;ix60y0;t", "y:h");
         later.chart(1, 1, 59, 0);
         Edges.due("0 by now", later.fits(NONE), 0);
         later.go(1);
@@ -184,7 +235,7 @@ public final class DealsEdgesTest {
         Edges.due("without the TIE", later.fits(0), 0);
         later.undo();
         Edges.due("again from SEASON 1", later.fits(0), 1);
-        DriftSea bounds = of("ix50y50;ix51y51;t", "y:0-99");
+        DriftSea bounds = Check.sea("ix50y50;ix51y51;t", "y:0-99");
         bounds.go(60);
         bounds.chart(20, 0, -999, -999);
         bounds.chart(20, 1, 999, 999);
@@ -260,7 +311,7 @@ public final class DealsEdgesTest {
         told.chart(1, 1, 57, 0);
         Edges.due("one more than those told", told.secret(0), 101);
         Edges.due("no TIE is made", told.count(2), 1);
-        DriftSea rule = of("ix0y0m4;ix60y0m2", "y:m+n*2+w*100*k");
+        DriftSea rule = Check.sea("ix0y0m4;ix60y0m2", "y:m+n*2+w*100*k");
         rule.chart(1, 1, 56, 0);
         Edges.due("the lower is the first, k and w are its own", rule.secret(NONE), 3);
         Edges.due("bargains all", rule.secret(2), 103);

@@ -43,8 +43,15 @@ final class Edges {
         CHECK.due(sentence + call, got, want);
     }
 
-    /** The sentence that is tested, where a test says it for many calls. */
-    static void says(String words) {
-        sentence = "[" + words + "] ";
+    static void placeIs(String what, DriftSea sea, int isle, long x, long y) {
+        due(what + ": x of " + isle, Check.isle(sea, isle, 0), x);
+        due(what + ": y of " + isle, Check.isle(sea, isle, 1), y);
+    }
+
+    /** Runs every SEASON by hand, also more than one call can. */
+    static void goAll(DriftSea sea, int seasons) {
+        for (int left = seasons; left > 0; left -= 60) {
+            sea.go(Math.min(60, left));
+        }
     }
 }

@@ -8,13 +8,6 @@ public final class ForecastEdgesTest {
         Edges.runAll(ForecastEdgesTest.class);
     }
 
-    private static DriftSea of(String text, String pull) {
-        DriftSea sea = Check.sea(text);
-        Check.rule(sea, pull);
-        sea.pull(0);
-        return sea;
-    }
-
     /** Isle 0 is too heavy to go; isle 1 comes by 1 a SEASON from so far away in x. */
     private static DriftSea comesFrom(int x) {
         return Check.sea("ix0y0m9;ix" + x + "y0;t");
@@ -43,6 +36,69 @@ public final class ForecastEdgesTest {
         Edges.due("from as it is, a quarrel", wild.ahead(0, 1, 0), 0);
     }
 
+    /** What asks for other TIES than those that are told. */
+    private static void askForOthers(DriftSea sea, int way) {
+        switch (way) {
+            case 0: sea.treaty(1, 0, 3, 9); break;
+            case 1: sea.bicker(1, 0, 0, 2, 9, 0); break;
+            case 2: sea.fits(0); break;
+            case 3: sea.secret(NONE); break;
+            default: sea.treaty(1, 60, 1, 9);
+        }
+    }
+
+    @Says("(All of these apart): no TREATY, BICKERING, SECRET or set of TIES is in what is asked next")
+    static void apartFromOneAnother() {
+        for (int way = 0; way <= 4; way++) {
+            DriftSea sea = toBeAsked();
+            askForOthers(sea, way);
+            Edges.due("drift behind " + way, sea.drift(0, 0), 1);
+            askForOthers(sea, way);
+            Edges.due("drift of another behind " + way, sea.drift(2, 1), -1);
+            askForOthers(sea, way);
+            Edges.due("led behind " + way, sea.led(0, 0, 0), 2);
+            askForOthers(sea, way);
+            Edges.due("ahead behind " + way, sea.ahead(0, 1, 0), 1);
+            askForOthers(sea, way);
+            Edges.due("nearest behind " + way, sea.nearest(0, 1, 1, 0), 57);
+            askForOthers(sea, way);
+            Edges.due("haste behind " + way, sea.haste(0, 1, 1), 58);
+            for (int then = 0; then <= 4; then++) {
+                long[] alone = answersOf(toBeAsked(), then);
+                askForOthers(sea, way);
+                long[] behind = answersOf(sea, then);
+                for (int i = 0; i < alone.length; i++) {
+                    Edges.due(then + " behind " + way + ", answer " + i, behind[i], alone[i]);
+                }
+            }
+            askForOthers(sea, way);
+            sea.go(1);
+            Edges.due("go behind " + way, Check.isle(sea, 0, 0), 1);
+            Edges.due("go of another behind " + way, Check.isle(sea, 2, 1), 39);
+            sea.undo();
+            askForOthers(sea, way);
+            sea.years(1, 1L);
+            Edges.due("years behind " + way, Check.isle(sea, 0, 0), 1);
+        }
+    }
+
+    /** With a CHART that is so by the first TIE alone. */
+    private static DriftSea toBeAsked() {
+        DriftSea sea = Check.sea("wj1;ix0y0m2;ix60y0;ix30y40;tw2;ta1b2w3;bl59");
+        sea.chart(1, 0, 1, 0);
+        return sea;
+    }
+
+    private static long[] answersOf(DriftSea sea, int way) {
+        switch (way) {
+            case 0: return new long[] {sea.treaty(1, 50, 3, 2), sea.treaty(1, 56, 1, 2)};
+            case 1: return new long[] {sea.bicker(1, 56, 60, 2, 2, 0), sea.bicker(1, 56, 60, 1, 2, 1)};
+            case 2: return new long[] {sea.fits(NONE), sea.fits(0), sea.fits(1)};
+            case 3: return new long[] {sea.secret(NONE), sea.secret(5)};
+            default: return new long[] {sea.rest(20), sea.snap(0), sea.when(0, 50, 20), sea.one(0, 1, 60)};
+        }
+    }
+
     @Says("LED: how far a TIE draws an ISLE in x, in y in the next SEASON (ahead of MASS)")
     static void ledAheadOfMass() {
         DriftSea sea = Check.sea("ix0y0m9;ix30y10m9;ix99;ta0b1w8;ta1b2k1w1");
@@ -53,7 +109,7 @@ public final class ForecastEdgesTest {
         Edges.due("not of this TIE, x", sea.led(2, 0, 0), 0);
         Edges.due("not of this TIE, y", sea.led(2, 0, 1), 0);
         Edges.due("by this one alone", sea.led(1, 1, 0), 0);
-        DriftSea most = of("ix0y0;ix99y0;t", "y:9999");
+        DriftSea most = Check.sea("ix0y0;ix99y0;t", "y:9999");
         Edges.due("the most", most.led(0, 0, 0), 99);
         Edges.due("the least", most.led(1, 0, 0), -99);
         DriftSea trade = Check.sea("wr1;ix0y0n1q9;ix30y0g1;tw2");
@@ -171,7 +227,7 @@ public final class ForecastEdgesTest {
         Edges.due("at once, n 0", still.rest(0), 0);
         Edges.due("at once, n 60", still.rest(60), 0);
         for (int n : new int[] {1, 2, 59, 60, 61}) {
-            DriftSea sea = of("ix0y0m9;ix9y0;t", "y:h<" + n + "?0-1;y:0");
+            DriftSea sea = Check.sea("ix0y0m9;ix9y0;t", "y:h<" + n + "?0-1;y:0");
             Edges.due("behind " + n + ", n 60", sea.rest(60), n > 60 ? NONE : n);
             Edges.due("behind " + n + ", one SEASON too few", sea.rest(n - 1), NONE);
             Edges.due("behind " + n + ", just so", sea.rest(n), n > 60 ? NONE : n);
@@ -180,10 +236,10 @@ public final class ForecastEdgesTest {
         DriftSea parts = Check.sea("i;i");
         Edges.due("parts, n 0", parts.rest(0), NONE);
         Edges.due("parts, n 1", parts.rest(1), 1);
-        DriftSea y = of("ix0y0m9;ix0y9;t", "y:h<1?1;y:0");
+        DriftSea y = Check.sea("ix0y0m9;ix0y9;t", "y:h<1?1;y:0");
         Edges.due("a move in y", y.rest(0), NONE);
         Edges.due("a move in y, n 1", y.rest(1), 1);
-        Edges.due("first", of("ix0y0m9;ix9y0;t", "y:h=0?0;y:1").rest(60), 0);
+        Edges.due("first", Check.sea("ix0y0m9;ix9y0;t", "y:h=0?0;y:1").rest(60), 0);
         DriftSea drawn = Check.sea("ix0y0m9;ix60y0m9;tw8");
         Edges.due("drawn, but too heavy", drawn.rest(0), 0);
         DriftSea snaps = Check.sea("ix0y0;ix60y0;bl9");
@@ -198,7 +254,7 @@ public final class ForecastEdgesTest {
         for (int[] row : rows) {
             int n = row[0];
             int steps = n - 1 - row[1];
-            DriftSea sea = of("ix0y0;ix99y0;t", "y:h<" + (n - 1) + "?0-1;y:" + steps);
+            DriftSea sea = Check.sea("ix0y0;ix99y0;t", "y:h<" + (n - 1) + "?0-1;y:" + steps);
             Edges.due("behind " + n + " as behind " + row[1], sea.round(60, 0), n > 60 ? NONE : n);
             Edges.due("how long", sea.round(60, 1), n > 60 ? NONE : n - row[1]);
             Edges.due("not within one less", sea.round(n - 1, 0), NONE);
@@ -213,7 +269,19 @@ public final class ForecastEdgesTest {
         Edges.due("HEADS are", parts.round(1, 0), NONE);
         Edges.due("then it is round", parts.round(2, 0), 2);
         Edges.due("then how long", parts.round(2, 1), 1);
-        DriftSea inY = of("ix0y0;ix0y99;t", "y:h=0?1;y:h=1?0-1;y:5");
+        String still = ";ix0y40m9;ix20y40m9;ix40y40m9;ix60y40m9";
+        DriftSea first = Check.sea("ix0y0" + still + ";ix0y99m9;ta0b5", "y:h<7?1;y:0");
+        Edges.due("the first of six alone", first.round(60, 0), 8);
+        DriftSea last = Check.sea("ix0y0m9" + still + ";ix0y99;ta0b5", "y:h<7?1;y:0");
+        Edges.due("the last of six alone", last.round(60, 0), 8);
+        DriftSea swings = Check.sea("ix0y0m9" + still + ";ix0y99;ta0b5", "y:h<9?1;y:h<10?0-8;y:0");
+        Edges.due("the last of six, back", swings.round(60, 0), 10);
+        Edges.due("as behind 1", swings.round(60, 1), 9);
+        DriftSea swingsInX = Check.sea("ix0y0" + still + ";ix99y0m9;ta0b5", "y:h<9?1;y:h<10?0-8;y:0");
+        Edges.due("the first of six, back", swingsInX.round(60, 0), 10);
+        DriftSea sixParts = Check.sea("ix0y0;ix20y0;ix40y0;ix60y0;ix90y90;ix90y90");
+        Edges.due("the last of six becomes a part", sixParts.round(60, 0), 2);
+        DriftSea inY = Check.sea("ix0y0;ix0y99;t", "y:h=0?1;y:h=1?0-1;y:5");
         Edges.due("y counts", inY.round(60, 0), 2);
     }
 
@@ -314,12 +382,12 @@ public final class ForecastEdgesTest {
     @Says("first in x, then with what is left in y")
     static void firstInX() {
         // behind one SEASON the ship is at (2, 0), not at (0, 2), where the isle goes then
-        DriftSea sea = of("ix0y0;ix2y2;ix50y2m9;ta1b2", "y:h=1?0-2;y:0");
+        DriftSea sea = Check.sea("ix0y0;ix2y2;ix50y2m9;ta1b2", "y:h=1?0-2;y:0");
         Edges.due("where it went", sea.ahead(1, 2, 0), 0);
         Edges.due("first in x", sea.sail(0, 1, 2, 0), 3);
         Edges.due("not overtaken", sea.sail(0, 1, 2, 1), 0);
         // with 3 it is at (2, 1) behind one SEASON; the isle comes there
-        DriftSea left = of("ix0y0;ix2y2;ix2y50m9;ta1b2", "y:h=1?0-1;y:0");
+        DriftSea left = Check.sea("ix0y0;ix2y2;ix2y50m9;ta1b2", "y:h=1?0-1;y:0");
         Edges.due("with what is left in y", left.sail(0, 1, 3, 1), 1);
         Edges.due("it came", left.sail(0, 1, 3, 0), 2);
     }
@@ -329,10 +397,10 @@ public final class ForecastEdgesTest {
         DriftSea swing = Check.sea(SWING);
         Edges.due("overtaken", swing.sail(1, 0, 2, 1), 1);
         Edges.due("then", swing.sail(1, 0, 2, 0), 2);
-        DriftSea comes = of("ix0y0;ix9y0;ix99y0m9;ta1b2", "y:0-9");
+        DriftSea comes = Check.sea("ix0y0;ix9y0;ix99y0m9;ta1b2", "y:0-9");
         Edges.due("it came at once", comes.sail(0, 1, 1, 0), 1);
         Edges.due("by its own way", comes.sail(0, 1, 1, 1), 1);
-        DriftSea half = of("ix0y0;ix9y0;ix99y0m9;ta1b2", "y:0-8");
+        DriftSea half = Check.sea("ix0y0;ix9y0;ix99y0m9;ta1b2", "y:0-8");
         Edges.due("one is left to sail", half.sail(0, 1, 1, 0), 1);
         Edges.due("not overtaken", half.sail(0, 1, 1, 1), 0);
         DriftSea here = Check.sea("i;i");
@@ -340,6 +408,8 @@ public final class ForecastEdgesTest {
         Edges.due("behind one SEASON", here.sail(0, 1, 99, 0), 1);
         here.go(1);
         Edges.due("a part and its HEAD", here.sail(1, 0, 1, 0), 1);
+        Edges.due("the least SPEED is 1, overtaken or not", here.haste(1, 0, 1), 1);
+        Edges.due("the least SPEED for what comes", comes.haste(0, 1, 1), 1);
     }
 
     @Says("HASTE: the least SPEED with which it is there behind no more than n SEASONS")

@@ -369,6 +369,20 @@ public final class PullTextEdgesTest {
         holds("0-1<0", true);
         holds("0-1>0", false);
         holds("0=0", true);
+        String[] alike = {"1=1", "1<2", "2>1", "2=2&1<2", "(2>1)", "!1>2"};
+        String[] unlike = {"1=2", "2<1", "1>2", "1<1", "2>2", "!1<2"};
+        for (String one : alike) {
+            holds("!" + one, false);
+            for (String other : alike) {
+                holds(one + "&" + other, true);
+                holds("(" + one + ")&!(" + other + ")", false);
+            }
+            for (String other : unlike) {
+                holds(one + "&" + other, false);
+                holds(one + "|" + other, true);
+                holds(other + "|" + one, true);
+            }
+        }
     }
 
     @Says("TRUTHS with | between; UNITS with & between; ! UNIT")

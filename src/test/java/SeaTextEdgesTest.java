@@ -101,6 +101,45 @@ public final class SeaTextEdgesTest {
         }
     }
 
+    @Says("The most CLAUSES of all sorts at once, each with its own ITEMS, each changed by itself")
+    static void mostEachItsOwn() {
+        StringBuilder text = new StringBuilder("wf2j3r1c4");
+        for (int i = 0; i < 6; i++) {
+            text.append(";ix").append(11 + i).append("m").append(1 + i).append("s").append(20 + i);
+        }
+        for (int i = 0; i < 8; i++) {
+            text.append(";ta").append(i % 6).append("b").append((i + 1) % 6).append("w").append(1 + i).append("k1");
+        }
+        for (int i = 0; i < 4; i++) {
+            text.append(";ba").append(5 - i).append("b0l").append(91 + i);
+        }
+        DriftSea sea = Check.sea(text.toString());
+        for (int turned = -1; turned < 8; turned++) {
+            sea.turn(turned);
+            for (int i = 0; i < 6; i++) {
+                long[] want = {11 + i, 50, 1 + i, i, 0, 0, 4, 1, 20 + i, 5};
+                for (int what = 0; what < 10; what++) {
+                    Edges.due("isle(" + i + ", " + what + ")", Check.isle(sea, i, what), want[what]);
+                }
+            }
+            for (int i = 0; i < 8; i++) {
+                int kind = i <= turned ? 0 : 1;
+                int strength = 1 + i;
+                int[] want = {i % 6, (i + 1) % 6, kind, strength, kind == 0 ? strength : -strength};
+                for (int what = 0; what < 5; what++) {
+                    Edges.due("tie(" + i + ", " + what + ")", sea.tie(i, what), want[what]);
+                }
+            }
+            for (int i = 0; i < 4; i++) {
+                int[] want = {5 - i, 0, 91 + i, 1};
+                for (int what = 0; what < 4; what++) {
+                    Edges.due("bridge(" + i + ", " + what + ")", sea.bridge(i, what), want[what]);
+                }
+            }
+        }
+        Edges.due("SEASON", sea.count(6), 0);
+    }
+
     @Says("CLAUSES with ; between .. in any order")
     static void anyOrder() {
         List<String> orders = new ArrayList<>();

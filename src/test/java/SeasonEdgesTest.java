@@ -1,27 +1,9 @@
-/** What part 2 of the document's terms says of TRADE and SEASONS: each bound, and the next one outside of it. */
+/** What part 2 of the document's terms says of TRADE and of one SEASON: each bound, and the next one outside of it. */
 public final class SeasonEdgesTest {
     private static final int NONE = DriftSea.NONE;
 
     public static void main(String[] args) throws ReflectiveOperationException {
         Edges.runAll(SeasonEdgesTest.class);
-    }
-
-    private static DriftSea of(String text, String pull) {
-        DriftSea sea = Check.sea(text);
-        Check.rule(sea, pull);
-        sea.pull(0);
-        return sea;
-    }
-
-    private static void placeIs(String what, DriftSea sea, int isle, int x, int y) {
-        Edges.due(what + ": x of " + isle, Check.isle(sea, isle, 0), x);
-        Edges.due(what + ": y of " + isle, Check.isle(sea, isle, 1), y);
-    }
-
-    private static void goAll(DriftSea sea, int seasons) {
-        for (int left = seasons; left > 0; left -= 60) {
-            sea.go(Math.min(60, left));
-        }
     }
 
     // ---- FAR, HEADS ----
@@ -37,12 +19,12 @@ public final class SeasonEdgesTest {
         }
         Edges.due("the greatest told", Check.sea("ix0y99;ix99y0").far(0, 1), 198);
         Edges.due("of itself", Check.sea("ix0y99;ix99y0").far(1, 1), 0);
-        DriftSea corners = of("ix50y50;ix51y51;t", "y:0-99");
+        DriftSea corners = Check.sea("ix50y50;ix51y51;t", "y:0-99");
         corners.go(60);
-        placeIs("corners", corners, 0, -999, -999);
-        placeIs("corners", corners, 1, 999, 999);
+        Edges.placeIs("corners", corners, 0, -999, -999);
+        Edges.placeIs("corners", corners, 1, 999, 999);
         Edges.due("the greatest", corners.far(0, 1), 3996);
-        Edges.due("d is FAR", of("ix0y99;ix99y0;t", "y:d-100").tie(0, 4), 98);
+        Edges.due("d is FAR", Check.sea("ix0y99;ix99y0;t", "y:d-100").tie(0, 4), 98);
     }
 
     @Says("(its HEAD; at first itself)")
@@ -57,9 +39,9 @@ public final class SeasonEdgesTest {
 
     @Says("what is said of the place, MASS, FAR, ties, bridges of a part is that of what it is a part of")
     static void partsAreAsHeads() {
-        DriftSea sea = of("wj2;ix0y0m2;ix2y0m3;ix30y0m4;ta1b2w5;ba1b2l29;ba1b2l30;bl1", "y:h=0?0;y:m*10+n-d");
+        DriftSea sea = Check.sea("wj2;ix0y0m2;ix2y0m3;ix30y0m4;ta1b2w5;ba1b2l29;ba1b2l30;bl1", "y:h=0?0;y:m*10+n-d");
         sea.go(1);
-        placeIs("its place", sea, 1, 0, 0);
+        Edges.placeIs("its place", sea, 1, 0, 0);
         Edges.due("MASS", Check.isle(sea, 1, 2), 5);
         Edges.due("HEAD", Check.isle(sea, 1, 3), 0);
         Edges.due("FAR", sea.far(1, 2), 30);
@@ -72,7 +54,7 @@ public final class SeasonEdgesTest {
         Edges.due("a bridge just long enough", sea.bridge(1, 3), 1);
         Edges.due("a bridge within one", sea.bridge(2, 3), 1);
         sea.go(1);
-        placeIs("it has gone", sea, 1, 4, 0);
+        Edges.placeIs("it has gone", sea, 1, 4, 0);
     }
 
     @Says("a part trades no more")
@@ -92,6 +74,14 @@ public final class SeasonEdgesTest {
         Edges.due("others lack what it made", sea.lacks(3), 1);
         Edges.due("nothing is sold", sea.monopoly(2, 0), NONE);
         Edges.due("nobody can buy of it", sea.undercut(1, 3), NONE);
+        DriftSea lacking = Check.sea("wj9;ix0;in1q7x5;ig1x90s3");
+        Edges.due("it lacks", lacking.lacks(1), 4);
+        Edges.due("it pays", lacking.pays(1) > 0, true);
+        lacking.go(1);
+        Edges.due("a part lacks nothing", lacking.lacks(1), 0);
+        Edges.due("a part pays nothing", lacking.pays(1), 0);
+        Edges.due("nor does it buy", lacking.buys(1, 2), 0);
+        Edges.due("nor is it sold", lacking.monopoly(1, 1), NONE);
     }
 
     // ---- TRADE ----
@@ -171,13 +161,13 @@ public final class SeasonEdgesTest {
 
     @Says("each TIE between two HEADS at unlike places has its PULL")
     static void atUnlikePlaces() {
-        DriftSea here = of("i;i;ix51;tw9;ta0b2w9", "y:7+w");
+        DriftSea here = Check.sea("i;i;ix51;tw9;ta0b2w9", "y:7+w");
         Edges.due("at one place", here.tie(0, 4), 0);
         Edges.due("one apart", here.tie(1, 4), 16);
         Edges.due("LED at one place", here.led(0, 0, 0), 0);
         Edges.due("LED at one place, y", here.led(1, 0, 1), 0);
         Edges.due("by the other alone", here.drift(0, 0), 16);
-        DriftSea part = of("wj1;ix0y0;ix1y0;ix9y0;t", "y:h=0?0;y:7");
+        DriftSea part = Check.sea("wj1;ix0y0;ix1y0;ix9y0;t", "y:h=0?0;y:7");
         part.go(1);
         Edges.due("of one HEAD", part.tie(0, 4), 0);
         Edges.due("LED of one HEAD", part.led(0, 0, 0), 0);
@@ -196,14 +186,14 @@ public final class SeasonEdgesTest {
     static void pullIsHeld() {
         int[][] rows = {{98, 98}, {99, 99}, {100, 99}, {101, 99}, {9999, 99}};
         for (int[] row : rows) {
-            DriftSea sea = of("ix0y0;ix99y0;ix0y99;t", "y:" + row[0]);
+            DriftSea sea = Check.sea("ix0y0;ix99y0;ix0y99;t", "y:" + row[0]);
             Edges.due("PULL", sea.tie(0, 4), row[1]);
             sea.go(1);
-            placeIs("drawn by " + row[0], sea, 0, row[1], 0);
-            DriftSea less = of("ix0y0;ix99y0;ix0y99;t", "y:0-" + row[0]);
+            Edges.placeIs("drawn by " + row[0], sea, 0, row[1], 0);
+            DriftSea less = Check.sea("ix0y0;ix99y0;ix0y99;t", "y:0-" + row[0]);
             Edges.due("PULL", less.tie(0, 4), -row[1]);
             less.go(1);
-            placeIs("drawn by -" + row[0], less, 1, 99 + row[1], 0);
+            Edges.placeIs("drawn by -" + row[0], less, 1, 99 + row[1], 0);
         }
     }
 
@@ -214,19 +204,19 @@ public final class SeasonEdgesTest {
         int[] first = {13, 6, 1, 7, 2, 0};
         int[] second = {13, 5, 0, 2, 7, 0};
         for (int i = 0; i < pulls.length; i++) {
-            DriftSea sea = of(text, pulls[i]);
+            DriftSea sea = Check.sea(text, pulls[i]);
             Edges.due(pulls[i] + " of the first", sea.tie(0, 4), first[i]);
             Edges.due(pulls[i] + " of the second", sea.tie(1, 4), second[i]);
         }
-        DriftSea sea = of("ix0y0;ix9y0m9;t", "y:h");
+        DriftSea sea = Check.sea("ix0y0;ix9y0m9;t", "y:h");
         for (int season = 0; season <= 4; season++) {
             Edges.due("h is count(6)", sea.tie(0, 4), sea.count(6));
             sea.go(1);
         }
-        placeIs("by 0, 1, 2, 3, 4", sea, 0, 10, 0);
+        Edges.placeIs("by 0, 1, 2, 3, 4", sea, 0, 10, 0);
         sea.undo();
         Edges.due("h is undone", sea.tie(0, 4), 4);
-        DriftSea turned = of("ix0;ix9;t", "y:k+5");
+        DriftSea turned = Check.sea("ix0;ix9;t", "y:k+5");
         turned.turn(0);
         Edges.due("k as it is now", turned.tie(0, 4), 6);
     }
@@ -246,9 +236,9 @@ public final class SeasonEdgesTest {
                     Edges.due("LED of the other " + i + " kind " + kind, sea.led(1, 0, axis), -sign * cut[i][axis]);
                 }
                 sea.go(1);
-                placeIs("the first " + i, sea, 0, 50 + sign * cut[i][0], 50 + sign * cut[i][1]);
+                Edges.placeIs("the first " + i, sea, 0, 50 + sign * cut[i][0], 50 + sign * cut[i][1]);
                 if (sea.count(1) == 2) {
-                    placeIs("the second " + i, sea, 1, 50 + ways[i][0] - sign * cut[i][0], 50 + ways[i][1] - sign * cut[i][1]);
+                    Edges.placeIs("the second " + i, sea, 1, 50 + ways[i][0] - sign * cut[i][0], 50 + ways[i][1] - sign * cut[i][1]);
                 }
             }
         }
@@ -264,7 +254,7 @@ public final class SeasonEdgesTest {
         DriftSea off = Check.sea("wr0" + isles);
         Edges.due("trade does not pull", off.drift(0, 0), 0);
         off.go(1);
-        placeIs("trade does not pull", off, 0, 0, 0);
+        Edges.placeIs("trade does not pull", off, 0, 0, 0);
         // 4 times 6 by 9, 4 times 3 by 9
         DriftSea on = Check.sea("wr1" + isles);
         Edges.due("x of who buys", on.drift(0, 0), 2);
@@ -272,14 +262,21 @@ public final class SeasonEdgesTest {
         Edges.due("x of who sells", on.drift(1, 0), -1);
         Edges.due("y of who sells, by MASS 2", on.drift(1, 1), 0);
         on.go(1);
-        placeIs("who buys", on, 0, 2, 1);
-        placeIs("who sells", on, 1, 5, 3);
-        placeIs("who does neither", on, 2, 90, 90);
+        Edges.placeIs("who buys", on, 0, 2, 1);
+        Edges.placeIs("who sells", on, 1, 5, 3);
+        Edges.placeIs("who does neither", on, 2, 90, 90);
         DriftSea here = Check.sea("wr1;in1q9;ig1;ix60");
         Edges.due("at one place it buys", here.buys(0, 1), 9);
         Edges.due("but is not drawn", here.drift(0, 0), 0);
         Edges.due("it goes by", here.go(1), 1);
-        DriftSea rule = of("wr1;ix0y0n1q4;ix9y0g1;ta0b1", "y:0");
+        for (int needed = 1; needed <= 9; needed++) {
+            DriftSea much = Check.sea("wr1;ix50y0n1q" + needed + ";ix90y0g1");
+            Edges.due("who buys " + needed, much.drift(0, 0), needed);
+            Edges.due("who sells " + needed, much.drift(1, 0), -needed);
+            much.go(1);
+            Edges.placeIs("who buys " + needed, much, 0, 50 + needed, 0);
+        }
+        DriftSea rule = Check.sea("wr1;ix0y0n1q4;ix9y0g1;ta0b1", "y:0");
         Edges.due("PULLS are of TIES alone", rule.drift(0, 0), 4);
         DriftSea both = Check.sea("wr1;ix0y0n1q4;ix20y0g1n0q3");
         Edges.due("each buys of the other", both.drift(0, 0), 7);
@@ -292,16 +289,16 @@ public final class SeasonEdgesTest {
     static void allAtOnce() {
         DriftSea chain = Check.sea("ix0y0;ix10y0;ix20y0;tw2;ta1b2w5");
         chain.go(1);
-        placeIs("the first", chain, 0, 2, 0);
-        placeIs("the second", chain, 1, 10 - 2 + 5, 0);
-        placeIs("the third", chain, 2, 15, 0);
+        Edges.placeIs("the first", chain, 0, 2, 0);
+        Edges.placeIs("the second", chain, 1, 10 - 2 + 5, 0);
+        Edges.placeIs("the third", chain, 2, 15, 0);
         DriftSea twice = Check.sea("ix0y0m2;ix10y0m2;tw1;tw1;ta1b0w3");
         twice.go(1);
-        placeIs("one and one and three by MASS 2", twice, 0, 2, 0);
+        Edges.placeIs("one and one and three by MASS 2", twice, 0, 2, 0);
         // each is cut by itself: 3 times 1 by 2 in x
         DriftSea cut = Check.sea("ix50y50;ix51y51m9;tw3;tw3");
         cut.go(1);
-        placeIs("1 and 1, not 3", cut, 0, 52, 52);
+        Edges.placeIs("1 and 1, not 3", cut, 0, 52, 52);
     }
 
     @Says("in x and in y, each by its MASS, cut towards 0")
@@ -309,15 +306,15 @@ public final class SeasonEdgesTest {
         int[][] rows = {{9, 8, 0}, {9, 9, 1}, {9, 17, 1}, {9, 18, 2}, {2, 3, 1}, {2, 4, 2}, {3, 2, 0}, {1, 5, 5}};
         for (int[] row : rows) {
             String text = "ix50y50m" + row[0] + ";ix99y50;t";
-            Edges.due("MASS " + row[0] + " by " + row[1], of(text, "y:" + row[1]).drift(0, 0), row[2]);
-            Edges.due("MASS " + row[0] + " by -" + row[1], of(text, "y:0-" + row[1]).drift(0, 0), -row[2]);
-            DriftSea gone = of(text, "y:0-" + row[1]);
+            Edges.due("MASS " + row[0] + " by " + row[1], Check.sea(text, "y:" + row[1]).drift(0, 0), row[2]);
+            Edges.due("MASS " + row[0] + " by -" + row[1], Check.sea(text, "y:0-" + row[1]).drift(0, 0), -row[2]);
+            DriftSea gone = Check.sea(text, "y:0-" + row[1]);
             gone.go(1);
-            placeIs("MASS " + row[0] + " gone by -" + row[1], gone, 0, 50 - row[2], 50);
-            DriftSea up = of("ix50y50m" + row[0] + ";ix50y99;t", "y:0-" + row[1]);
+            Edges.placeIs("MASS " + row[0] + " gone by -" + row[1], gone, 0, 50 - row[2], 50);
+            DriftSea up = Check.sea("ix50y50m" + row[0] + ";ix50y99;t", "y:0-" + row[1]);
             Edges.due("in y", up.drift(0, 1), -row[2]);
             up.go(1);
-            placeIs("in y gone", up, 0, 50, 50 - row[2]);
+            Edges.placeIs("in y gone", up, 0, 50, 50 - row[2]);
         }
     }
 
@@ -330,17 +327,17 @@ public final class SeasonEdgesTest {
         int[] seasons = {124, 124, 124, 124, 125, 126, 125, 126};
         int[] lastStep = {8, 6, 8, 6, 8, 2, 8, 2};
         for (int i = 0; i < texts.length; i++) {
-            DriftSea sea = of(texts[i], "y:0-8");
-            goAll(sea, seasons[i] - 1);
+            DriftSea sea = Check.sea(texts[i], "y:0-8");
+            Edges.goAll(sea, seasons[i] - 1);
             int axis = i / 2 % 2;
             int sign = i < 4 ? 1 : -1;
             Edges.due(texts[i] + " goes to the bound", sea.drift(1, axis), sign * lastStep[i]);
             sea.go(1);
-            placeIs(texts[i], sea, 1, ends[i][0], ends[i][1]);
+            Edges.placeIs(texts[i], sea, 1, ends[i][0], ends[i][1]);
             Edges.due(texts[i] + " went", sea.log(0, 2), lastStep[i]);
             Edges.due(texts[i] + " goes no farther", sea.drift(1, axis), 0);
             sea.go(1);
-            placeIs(texts[i] + " still", sea, 1, ends[i][0], ends[i][1]);
+            Edges.placeIs(texts[i] + " still", sea, 1, ends[i][0], ends[i][1]);
             Edges.due(texts[i] + " went nowhere", sea.log(0, 2), 0);
             Edges.due(texts[i] + " rests", sea.rest(0), 0);
         }
@@ -410,7 +407,7 @@ public final class SeasonEdgesTest {
     @Says("the higher and all its parts are parts of the lower")
     static void partsOfParts() {
         // 1 and 2, of MASS 2 together, come by 4 a SEASON, and 0 by 1
-        DriftSea sea = of("wj1;ix0y0m9;ix20y0;ix21y0;ta0b1", "y:h=0?0;y:9");
+        DriftSea sea = Check.sea("wj1;ix0y0m9;ix20y0;ix21y0;ta0b1", "y:h=0?0;y:9");
         sea.go(1);
         Edges.due("2 is a part of 1", Check.isle(sea, 2, 3), 1);
         sea.go(3);
@@ -420,7 +417,7 @@ public final class SeasonEdgesTest {
         Edges.due("its parts, too", Check.isle(sea, 2, 3), 0);
         Edges.due("one HEAD", sea.count(1), 1);
         Edges.due("one became a part", sea.log(0, 0), 1);
-        placeIs("where the lower is", sea, 2, 4, 0);
+        Edges.placeIs("where the lower is", sea, 2, 4, 0);
         Edges.due("MASS of all", Check.isle(sea, 2, 2), 11);
     }
 
@@ -431,7 +428,7 @@ public final class SeasonEdgesTest {
         for (int isle = 0; isle < 6; isle++) {
             Edges.due("MASS of " + isle, Check.isle(sea, isle, 2), 54);
         }
-        DriftSea heavy = of("wj1;im9;im9;im9;im9;im9;ix99m9;ta0b5", "y:h=0?0;y:99");
+        DriftSea heavy = Check.sea("wj1;im9;im9;im9;im9;im9;ix99m9;ta0b5", "y:h=0?0;y:99");
         heavy.go(1);
         Edges.due("45", Check.isle(heavy, 4, 2), 45);
         Edges.due("99 by 45", heavy.drift(0, 0), 2);
@@ -451,10 +448,30 @@ public final class SeasonEdgesTest {
             Edges.due("SCAR " + row[0], Check.isle(sea, 0, 4), row[1]);
             Edges.due("SCAR " + row[0] + " of the part", Check.isle(sea, 1, 4), row[1]);
         }
+        // in y, in x and y, with whatever sign: 7 nearer, too
+        String[] ways = {"ix0y10m2;ix0y0m3;tw9", "ix0y0m2;ix0y10m3;tw9", "ix10y0m2;ix0y0m3;tw9"};
+        for (String way : ways) {
+            for (int scar = 6; scar <= 7; scar++) {
+                DriftSea sea = Check.sea("wj3c" + scar + ";" + way);
+                sea.go(1);
+                Edges.due("one HEAD of " + way, sea.count(1), 1);
+                Edges.due("SCAR " + scar + " of " + way, Check.isle(sea, 1, 4), scar == 6 ? 1 : 0);
+            }
+        }
+        // 5 and 5 apart: 9 draws 4 and 4 each, so they are from 10 to 6 apart
+        String[] across = {"ix0y0;ix5y5;tw9", "ix5y0;ix0y5;tw9", "ix0y5;ix5y0;tw9", "ix5y5;ix0y0;tw9"};
+        for (String way : across) {
+            for (int scar = 3; scar <= 4; scar++) {
+                DriftSea sea = Check.sea("wj6c" + scar + ";" + way);
+                sea.go(1);
+                Edges.due("one HEAD of " + way, sea.count(1), 1);
+                Edges.due("SCAR " + scar + " of " + way, Check.isle(sea, 1, 4), scar == 3 ? 1 : 0);
+            }
+        }
         // SCAR 10 without: by 9 and 1 nearer, by 10 and 1
         int[][] without = {{9, 0}, {10, 1}};
         for (int[] row : without) {
-            DriftSea sea = of("wj9;ix0y0m9;ix15y0;t", "y:" + row[0]);
+            DriftSea sea = Check.sea("wj9;ix0y0m9;ix15y0;t", "y:" + row[0]);
             sea.go(1);
             Edges.due("one HEAD by " + row[0], sea.count(1), 1);
             Edges.due("nearer by 1 more than " + row[0], Check.isle(sea, 1, 4), row[1]);
@@ -472,7 +489,7 @@ public final class SeasonEdgesTest {
         String pull = "y:h=0?w*w/3;y:h=1?0;y:d/2";
         Object[][] rows = {{"wj2c2", 7, 2}, {"wj6c2", 5, 3}, {"wj6c4", 5, 2}, {"wj2c1", 7, 3}};
         for (Object[] row : rows) {
-            DriftSea sea = of(row[0] + isles, pull);
+            DriftSea sea = Check.sea(row[0] + isles, pull);
             sea.go(1);
             Edges.due("two HEADS", sea.count(1), 2);
             Edges.due("a scar", Check.isle(sea, 0, 4), 1);
@@ -506,7 +523,7 @@ public final class SeasonEdgesTest {
         DriftSea near = Check.sea("ix0y0m9;ix20y0;ta1b0w8;bl15");
         Edges.due("it stands till a SEASON goes by", near.bridge(0, 3), 1);
         near.go(1);
-        placeIs("12 apart", near, 1, 12, 0);
+        Edges.placeIs("12 apart", near, 1, 12, 0);
         Edges.due("it stands", near.bridge(0, 3), 1);
         DriftSea again = Check.sea("ix0y0m9;ix20y0;ta1b0w4;bl15");
         again.go(1);
@@ -522,417 +539,5 @@ public final class SeasonEdgesTest {
         longest.go(1);
         Edges.due("99 apart", longest.bridge(0, 3), 1);
         Edges.due("100 apart", longest.bridge(1, 3), 0);
-    }
-
-    // ---- SEASONS go by ----
-
-    @Says("SEASONS (1 .. 60) go by: the SEASON")
-    static void seasonsGoBy() {
-        DriftSea sea = Check.sea("ix0y0;ix99y0m9;t");
-        Edges.due("go(1)", sea.go(1), 1);
-        Edges.due("go(60)", sea.go(60), 61);
-        placeIs("61 SEASONS", sea, 0, 61, 0);
-        Edges.due("years(1)", sea.years(1, 0L), 62);
-        Edges.due("years(60)", sea.years(60, 0L), 122);
-        Edges.due("count(6)", sea.count(6), 122);
-        DriftSea whole = of("ix0y0;ix99y0m9;t", "y:0");
-        for (int i = 1; i <= 100; i++) {
-            Edges.due("no last SEASON", whole.go(60), 60 * i);
-        }
-        Check.rule(whole, "y:h/100");
-        whole.pull(1);
-        Edges.due("h then", whole.tie(0, 4), 60);
-    }
-
-    @Says("x, at first the seed, becomes x times .. and .. (64 bits, going round); a draw of k: "
-        + "(x shifted right by 33, without sign) modulo k")
-    static void drawsOfSeeds() {
-        long[] seeds = {0, 1, -1, 2, -2, 99, Long.MAX_VALUE, Long.MIN_VALUE, Long.MAX_VALUE - 1, Long.MIN_VALUE + 1,
-            Integer.MAX_VALUE, Integer.MIN_VALUE, 1L << 32, 1L << 33, -(1L << 33), 0x5555555555555555L, 0xAAAAAAAAAAAAAAAAL};
-        boolean high = false;
-        boolean low = false;
-        for (long seed : seeds) {
-            DriftSea sea = of("ix10y10;ix30y40;ix70y20;ix90y80;t;t;t", "y:0");
-            sea.chance(0, 99);
-            sea.chance(1, 99);
-            int[][] want = {{10, 10}, {30, 40}, {70, 20}, {90, 80}};
-            int[] kinds = new int[3];
-            Draws draws = new Draws(seed);
-            for (int season = 0; season < 8; season++) {
-                int ahead = draws.of(100);
-                high |= draws.wasHigh();
-                low |= !draws.wasHigh();
-                if (ahead < 99) {
-                    int head = draws.of(4);
-                    want[head][0] += draws.of(19) - 9;
-                    want[head][1] += draws.of(19) - 9;
-                }
-                if (draws.of(100) < 99) {
-                    kinds[draws.of(3)] ^= 1;
-                }
-            }
-            Edges.due("years(8, " + seed + ")", sea.years(8, seed), 8);
-            for (int isle = 0; isle < 4; isle++) {
-                placeIs("seed " + seed, sea, isle, want[isle][0], want[isle][1]);
-            }
-            for (int tie = 0; tie < 3; tie++) {
-                Edges.due("seed " + seed + " KIND of " + tie, sea.tie(tie, 2), kinds[tie]);
-            }
-        }
-        Edges.due("an x with its highest bit and one without", high && low, true);
-    }
-
-    /** The least seed whose first draw of 100 is this. */
-    private static long seedOf(int first) {
-        for (long seed = 0; seed < 100000; seed++) {
-            if (new Draws(seed).of(100) == first) {
-                return seed;
-            }
-        }
-        return -1;
-    }
-
-    @Says("a draw of 100 below STORM (0 .. 99; 0 at first)")
-    static void belowStorm() {
-        for (int first : new int[] {0, 1, 49, 50, 97, 98, 99}) {
-            long seed = seedOf(first);
-            Draws draws = new Draws(seed);
-            draws.of(100);
-            int head = draws.of(2);
-            int x = draws.of(19) - 9;
-            int y = draws.of(19) - 9;
-            for (int storm : new int[] {0, first, first + 1, 99}) {
-                if (storm > 99) {
-                    continue;
-                }
-                DriftSea sea = of("ix20y20;ix70y70", "y:0");
-                sea.chance(0, storm);
-                sea.years(1, seed);
-                boolean struck = first < storm;
-                for (int isle = 0; isle < 2; isle++) {
-                    int at = isle == 0 ? 20 : 70;
-                    boolean this1 = struck && isle == head;
-                    placeIs("draw " + first + ", STORM " + storm, sea, isle, at + (this1 ? x : 0), at + (this1 ? y : 0));
-                }
-                Edges.due("not put by", sea.log(0, 2), 0);
-            }
-        }
-    }
-
-    /** A seed whose second draw, of 100, is this (the first one is no storm). */
-    private static long seedOfSecond(int second) {
-        for (long seed = 0; seed < 100000; seed++) {
-            Draws draws = new Draws(seed);
-            draws.of(100);
-            if (draws.of(100) == second) {
-                return seed;
-            }
-        }
-        return -1;
-    }
-
-    @Says("then a draw of 100 below SALT (0 .. 99; 0): if there are TIES, a draw of how many: that one becomes of the other KIND")
-    static void belowSalt() {
-        for (int second : new int[] {0, 1, 49, 50, 97, 98, 99}) {
-            long seed = seedOfSecond(second);
-            Draws draws = new Draws(seed);
-            draws.of(100);
-            draws.of(100);
-            int tie = draws.of(3);
-            for (int salt : new int[] {0, second, second + 1, 99}) {
-                if (salt > 99) {
-                    continue;
-                }
-                DriftSea sea = of("ix20y20;ix70y70;t;tk1;t", "y:0");
-                sea.chance(1, salt);
-                sea.years(1, seed);
-                for (int i = 0; i < 3; i++) {
-                    int was = i == 1 ? 1 : 0;
-                    boolean turned = second < salt && i == tie;
-                    Edges.due("draw " + second + ", SALT " + salt, sea.tie(i, 2), turned ? 1 - was : was);
-                }
-            }
-        }
-        // ahead of (1): the TIE that is turned draws as what it became
-        DriftSea one = Check.sea("ix20y50;ix70y50;tw5");
-        one.chance(1, 99);
-        one.years(1, seedOfSecond(0));
-        Edges.due("KIND", one.tie(0, 2), 1);
-        placeIs("a quarrel in the same SEASON", one, 0, 15, 50);
-    }
-
-    @Says("if there are TIES (none: nothing is drawn for it)")
-    static void saltWithoutTies() {
-        long[] seeds = {3, 4, 5, -77};
-        for (long seed : seeds) {
-            DriftSea sea = Check.sea("ix20y20;ix70y70");
-            sea.chance(0, 60);
-            sea.chance(1, 99);
-            int[][] want = {{20, 20}, {70, 70}};
-            Draws draws = new Draws(seed);
-            for (int season = 0; season < 6; season++) {
-                if (draws.of(100) < 60) {
-                    int head = draws.of(2);
-                    want[head][0] += draws.of(19) - 9;
-                    want[head][1] += draws.of(19) - 9;
-                }
-                draws.of(100);
-            }
-            Edges.due("years", sea.years(6, seed), 6);
-            placeIs("seed " + seed, sea, 0, want[0][0], want[0][1]);
-            placeIs("seed " + seed, sea, 1, want[1][0], want[1][1]);
-        }
-    }
-
-    @Says("a draw of how many HEADS there are: that one (by numbers)")
-    static void stormOfHeads() {
-        for (long seed = 0; seed < 12; seed++) {
-            DriftSea sea = Check.sea("wj0;ix10y10;ix10y10;ix40y40;ix40y40;ix80y80");
-            sea.go(1);
-            Edges.due("HEADS 0, 2, 4", sea.count(1), 3);
-            sea.chance(0, 99);
-            Draws draws = new Draws(seed);
-            if (draws.of(100) >= 99) {
-                continue;
-            }
-            int head = new int[] {0, 2, 4}[draws.of(3)];
-            int x = (int) Check.isle(sea, head, 0) + draws.of(19) - 9;
-            int y = (int) Check.isle(sea, head, 1) + draws.of(19) - 9;
-            sea.years(1, seed);
-            placeIs("seed " + seed, sea, head, x, y);
-        }
-        DriftSea one = Check.sea("i;i");
-        one.go(1);
-        one.chance(0, 99);
-        long seed = seedOf(3);
-        Draws draws = new Draws(seed);
-        draws.of(100);
-        draws.of(1);
-        int x = 50 + draws.of(19) - 9;
-        int y = 50 + draws.of(19) - 9;
-        one.years(1, seed);
-        placeIs("a draw of 1", one, 1, x, y);
-    }
-
-    @Says("goes by a draw of 19 less 9 in x, then likewise in y (within bounds)")
-    static void tossedBy() {
-        boolean[] seenX = new boolean[19];
-        boolean[] seenY = new boolean[19];
-        for (long seed = 0; seed < 300; seed++) {
-            Draws draws = new Draws(seed);
-            if (draws.of(100) >= 99) {
-                continue;
-            }
-            int head = draws.of(2);
-            int x = draws.of(19);
-            int y = draws.of(19);
-            if (seenX[x] && seenY[y]) {
-                continue;
-            }
-            seenX[x] = true;
-            seenY[y] = true;
-            DriftSea sea = Check.sea("ix10y20;ix60y70");
-            sea.chance(0, 99);
-            sea.years(1, seed);
-            placeIs("by " + (x - 9) + ", " + (y - 9), sea, head, (head == 0 ? 10 : 60) + x - 9, (head == 0 ? 20 : 70) + y - 9);
-            placeIs("the other stays", sea, 1 - head, head == 0 ? 60 : 10, head == 0 ? 70 : 20);
-        }
-        for (int i = 0; i < 19; i++) {
-            Edges.due("a draw of " + i, seenX[i] && seenY[i], true);
-        }
-        // at the corners they can't be tossed farther
-        for (long seed = 0; seed < 60; seed++) {
-            Draws draws = new Draws(seed);
-            if (draws.of(100) >= 99) {
-                continue;
-            }
-            DriftSea sea = of("ix50y50;ix51y51;t", "y:0-99");
-            sea.go(60);
-            Check.rule(sea, "y:0");
-            sea.pull(1);
-            sea.chance(0, 99);
-            int head = draws.of(2);
-            int x = draws.of(19) - 9;
-            int y = draws.of(19) - 9;
-            sea.years(1, seed);
-            int wantX = head == 0 ? Math.max(-999, -999 + x) : Math.min(999, 999 + x);
-            int wantY = head == 0 ? Math.max(-999, -999 + y) : Math.min(999, 999 + y);
-            placeIs("at the corner, seed " + seed, sea, head, wantX, wantY);
-        }
-    }
-
-    @Says("in these (YEARS), ahead of (1)")
-    static void byHandNoStorms() {
-        DriftSea hand = Check.sea("ix20y20;ix70y70;t");
-        hand.chance(0, 99);
-        hand.chance(1, 99);
-        hand.go(5);
-        DriftSea calm = Check.sea("ix20y20;ix70y70;t");
-        calm.go(5);
-        placeIs("by hand", hand, 0, (int) Check.isle(calm, 0, 0), (int) Check.isle(calm, 0, 1));
-        Edges.due("KIND by hand", hand.tie(0, 2), 0);
-        calm = Check.sea("ix20y20;ix70y70;t");
-        calm.years(5, 12345L);
-        placeIs("YEARS without STORM and SALT", hand, 1, (int) Check.isle(calm, 1, 0), (int) Check.isle(calm, 1, 1));
-        // the storm is no part of how far they were ahead of (2): no scar by it
-        for (long seed = 0; seed < 40; seed++) {
-            Draws draws = new Draws(seed);
-            if (draws.of(100) >= 99) {
-                continue;
-            }
-            DriftSea sea = Check.sea("wj9c1;ix50y50;ix55y50");
-            sea.chance(0, 99);
-            sea.years(1, seed);
-            Edges.due("no scar by a storm, seed " + seed, Check.isle(sea, 0, 4), 0);
-            Edges.due("no way by a storm, seed " + seed, sea.log(0, 2), 0);
-        }
-    }
-
-    // ---- undone, put by ----
-
-    @Says("The latest 30 SEASONS can be UNDONE one by one")
-    static void thirtyUndone() {
-        for (int seasons : new int[] {1, 29, 30, 31, 59, 60, 61, 90, 91}) {
-            DriftSea sea = Check.sea("ix0y0m1;ix99y0m9;t");
-            goAll(sea, seasons);
-            int can = Math.min(30, seasons);
-            Edges.due("count(13) of " + seasons, sea.count(13), can);
-            for (int i = 1; i <= can; i++) {
-                Edges.due("undo " + i + " of " + seasons, sea.undo(), seasons - i);
-                Edges.due("count(13)", sea.count(13), can - i);
-                Edges.due("x", Check.isle(sea, 0, 0), placeBehind(seasons - i));
-            }
-            Edges.due("none more of " + seasons, sea.undo(), NONE);
-            Edges.due("it stays", sea.count(6), seasons - can);
-        }
-    }
-
-    /** Isle 0 goes 1 a season till it is past 99, then swings. */
-    private static int placeBehind(int season) {
-        DriftSea sea = Check.sea("ix0y0m1;ix99y0m9;t");
-        return season == 0 ? 0 : sea.ahead(0, Math.min(season, 60), 0)
-            + (season > 60 ? stepsPast60(season) : 0);
-    }
-
-    private static int stepsPast60(int season) {
-        int x = 60;
-        for (int i = 60; i < season; i++) {
-            x += x < 99 ? 1 : -1;
-        }
-        return x - 60;
-    }
-
-    @Says("The latest 30 SEASONS can be UNDONE (gone by again, they are undone again)")
-    static void undoneAndGoneBy() {
-        DriftSea sea = Check.sea("ix0y0m1;ix99y0m9;t");
-        int season = 0;
-        int can = 0;
-        for (int round = 0; round < 9; round++) {
-            sea.go(7 + round);
-            season += 7 + round;
-            can = Math.min(30, can + 7 + round);
-            for (int i = 0; i < 4 + round % 3; i++) {
-                season--;
-                can--;
-                Edges.due("undo in round " + round, sea.undo(), season);
-                Edges.due("count(13)", sea.count(13), can);
-                Edges.due("x", Check.isle(sea, 0, 0), season <= 99 ? season : 99 - (season - 99) % 2);
-            }
-        }
-        for (; can > 0; can--) {
-            season--;
-            Edges.due("at last", sea.undo(), season);
-            Edges.due("x at last", Check.isle(sea, 0, 0), season <= 99 ? season : 99 - (season - 99) % 2);
-        }
-        Edges.due("none", sea.undo(), NONE);
-    }
-
-    @Says("UNDONE .. (KINDS, too, as they were ahead of it)")
-    static void undoneKinds() {
-        DriftSea sea = of("ix0;ix60;t;tk1;t", "y:0");
-        sea.turn(0);
-        sea.go(1);
-        sea.turn(1);
-        sea.turn(2);
-        sea.go(1);
-        sea.turn(0);
-        Edges.due("undo", sea.undo(), 1);
-        Edges.due("KIND 0 as ahead of the second", sea.tie(0, 2), 1);
-        Edges.due("KIND 1", sea.tie(1, 2), 0);
-        Edges.due("KIND 2", sea.tie(2, 2), 1);
-        Edges.due("undo", sea.undo(), 0);
-        Edges.due("KIND 0 as ahead of the first", sea.tie(0, 2), 1);
-        Edges.due("KIND 1", sea.tie(1, 2), 1);
-        Edges.due("KIND 2", sea.tie(2, 2), 0);
-        sea.chance(1, 99);
-        sea.years(9, 5L);
-        for (int i = 0; i < 9; i++) {
-            sea.undo();
-        }
-        Edges.due("SALT undone, 0", sea.tie(0, 2), 1);
-        Edges.due("SALT undone, 1", sea.tie(1, 2), 1);
-        Edges.due("SALT undone, 2", sea.tie(2, 2), 0);
-    }
-
-    @Says("The latest SEASON is UNDONE (what is put by of it is gone): the SEASON")
-    static void undoneAll() {
-        DriftSea sea = Check.sea("wj3c1;ix0y0m2;ix10y0m3;ix40y0;tw9;ta0b2k1w9;ba0b2l41");
-        sea.chance(0, 99);
-        sea.years(1, 2L);
-        sea.price(0, 77);
-        Edges.due("undo", sea.undo(), 0);
-        int[][] want = {{0, 0, 2, 0, 0}, {10, 0, 3, 1, 0}, {40, 0, 1, 2, 0}};
-        for (int isle = 0; isle < 3; isle++) {
-            for (int what = 0; what <= 4; what++) {
-                Edges.due("isle(" + isle + ", " + what + ")", Check.isle(sea, isle, what), want[isle][what]);
-            }
-        }
-        Edges.due("BRIDGES", sea.bridge(0, 3), 1);
-        Edges.due("HEADS", sea.count(1), 3);
-        Edges.due("PRICE as told", Check.isle(sea, 0, 9), 77);
-        Edges.due("STORM as told", sea.chance(0, 99), false);
-        Edges.due("put by", sea.count(14), 0);
-        Edges.due("log", sea.log(0, 0), NONE);
-    }
-
-    @Says("Put by are the latest 60")
-    static void sixtyPutBy() {
-        // each SEASON is put by with another way: how far is h
-        for (int seasons : new int[] {1, 59, 60, 61, 62, 90}) {
-            DriftSea sea = of("ix0y0m1;ix99y0m9;t", "y:h<90?h-h/9*9;y:0");
-            goAll(sea, seasons);
-            int many = Math.min(60, seasons);
-            Edges.due("count(14) of " + seasons, sea.count(14), many);
-            for (int i = 0; i < many; i++) {
-                int h = seasons - 1 - i;
-                Edges.due("log(" + i + ") of " + seasons, sea.log(i, 2), h < 90 ? h % 9 : 0);
-            }
-            Edges.due("no more of " + seasons, sea.log(many, 2), NONE);
-            sea.undo();
-            Edges.due("one less of " + seasons, sea.count(14), many - 1);
-            Edges.due("the one ahead of it", sea.log(0, 2), seasons > 1 ? (seasons - 2) % 9 : NONE);
-            Edges.due("none behind it", sea.log(many - 1, 2), NONE);
-            sea.go(1);
-            Edges.due("again", sea.count(14), many);
-            Edges.due("the latest", sea.log(0, 2), (seasons - 1) % 9);
-        }
-    }
-
-    @Says("Put by ..: how many became parts, how many BRIDGES snapped, how far all HEADS went together in (2) (FAR of both places)")
-    static void putByWhat() {
-        // 3 and 4 go from 30 apart to 42, then 54
-        DriftSea sea = Check.sea("wj5;ix10y10;ix11y11;ix13y12;ix90y90m2;ix60y90;ta3b4k1w8;ba3b4l40;ba3b4l41;ba3b4l42;bl1");
-        sea.go(1);
-        Edges.due("two became parts", sea.log(0, 0), 2);
-        Edges.due("two snapped", sea.log(0, 1), 2);
-        Edges.due("4 and 8", sea.log(0, 2), 12);
-        sea.go(1);
-        Edges.due("none became a part", sea.log(0, 0), 0);
-        Edges.due("one snapped", sea.log(0, 1), 1);
-        Edges.due("the one ahead", sea.log(1, 0), 2);
-        // in x and y both, without signs
-        DriftSea way = Check.sea("ix50y50;ix60y40;tw8;ta1b0w4");
-        way.go(1);
-        Edges.due("6 and 6 each", way.log(0, 2), 24);
     }
 }

@@ -8,13 +8,6 @@ public final class SightEdgesTest {
         Edges.runAll(SightEdgesTest.class);
     }
 
-    private static DriftSea of(String text, String pull) {
-        DriftSea sea = Check.sea(text);
-        Check.rule(sea, pull);
-        sea.pull(0);
-        return sea;
-    }
-
     /** Four at one place, behind a SEASON; two others. HEADS are 0, 4 and 5. */
     private static DriftSea withParts() {
         DriftSea sea = Check.sea("ix0y0;ix0y0;ix0y0;ix0y0;ix7y0;ix7y5");
@@ -39,7 +32,7 @@ public final class SightEdgesTest {
         for (int isle = 0; isle < 6; isle++) {
             Edges.due("all but it at r 0", six.sees(isle, 0), 63 - (1 << isle));
         }
-        DriftSea far = of("ix0y50m9;ix7y50;t", "y:0-8");
+        DriftSea far = Check.sea("ix0y50m9;ix7y50;t", "y:0-8");
         for (int i = 0; i < 3; i++) {
             far.go(60);
         }
@@ -94,7 +87,7 @@ public final class SightEdgesTest {
         DriftSea one = Check.sea("i;i");
         one.go(1);
         Edges.due("one alone", one.when(1, 0, 0), 0);
-        DriftSea far = of("ix0y50m9;ix7y50;t", "y:0-8");
+        DriftSea far = Check.sea("ix0y50m9;ix7y50;t", "y:0-8");
         for (int i = 0; i < 3; i++) {
             far.go(60);
         }
@@ -153,7 +146,7 @@ public final class SightEdgesTest {
         DriftSea parts = withParts();
         Edges.due("of HEADS", parts.wide(0), 12);
         Edges.due("which HEADS", parts.wide(1), 5);
-        DriftSea corners = of("ix50y50;ix51y51;t", "y:0-99");
+        DriftSea corners = Check.sea("ix50y50;ix51y51;t", "y:0-99");
         corners.go(60);
         Edges.due("the greatest", corners.wide(0), 3996);
         DriftSea one = Check.sea("i;i");

@@ -185,6 +185,11 @@ public final class DealsEdgesTest {
         Edges.due("not behind the last alone", sea.bicker(1, 16, 16, 2, 1, 0), NONE);
         Edges.due("near and far 0", Check.sea("i;i").bicker(1, 0, 0, 6, 9, 0), 0);
         Edges.due("near above far", sea.bicker(1, 21, 20, 1, 1, 0), NONE);
+        // the one that is told first is the first one of the deal, where a PULL asks for m and n
+        DriftSea rule = Check.sea("ix0y0m9;ix60y0m3", "y:m-n");
+        Edges.due("0 first: nearer", rule.bicker(1, 58, 58, 1, 1, 0), 1);
+        Edges.due("1 first: farther", rule.bicker(10, 62, 62, 1, 1, 0), 1);
+        Edges.due("0 first: not farther", rule.bicker(1, 62, 62, 1, 1, 0), NONE);
     }
 
     @Says("that with the fewest deals (of several the least as digits, the first SEASON the highest): it; how many deals")

@@ -965,9 +965,12 @@ public final class DriftSea {
         /** letters: what d w k m n h are. */
         int worth(int[] letters) {
             int top = 0;
+            boolean passedOver = false;
             for (int at = 0; at < length; at++) {
                 int entry = entries[at];
-                if (entry >= NUMBERS || entry < LETTER_COUNT) {
+                if (passedOver) {
+                    passedOver = entry != ';';
+                } else if (entry >= NUMBERS || entry < LETTER_COUNT) {
                     if (top >= WAITING) {
                         return 0;
                     }
@@ -979,7 +982,7 @@ public final class DriftSea {
                     return stack[top - 1];
                 } else if (entry == '?') {
                     top--;
-                    at = stack[top] == 0 ? endOfClause(at) : at;
+                    passedOver = stack[top] == 0;
                 } else if (entry == '!') {
                     stack[top - 1] = 1 - stack[top - 1];
                 } else if (top < 2) {
@@ -991,14 +994,6 @@ public final class DriftSea {
                 }
             }
             return 0;
-        }
-
-        private int endOfClause(int from) {
-            int at = from;
-            while (at < length && entries[at] != ';') {
-                at++;
-            }
-            return at;
         }
 
         private static long join(int sign, long left, long right) {
